@@ -387,7 +387,10 @@ public final class PathBook {
         return place & (FLAG_SETS - 1);
     }
 
-    /** What Float.floatToIntBits would tell; the language that the program keeps to has no Float. */
+    /**
+     * What Float.floatToIntBits would tell; the language that the program keeps to has no Float.
+     * No mood, and no sum of the moods of 1024 places, comes near to 2^24 or to 2^-126.
+     */
     private static int bitsOf(float value) {
         if (value == 0.0f) {
             return 0;
@@ -398,10 +401,6 @@ public final class PathBook {
         for (int i = 0; i < 150 && part < 8388608.0f; i++) {
             part = part * 2.0f;
             exponent--;
-        }
-        for (int i = 0; i < 150 && part >= 16777216.0f; i++) {
-            part = part * 0.5f;
-            exponent++;
         }
         return sign | exponent << 23 | ((int) part - 8388608);
     }
@@ -494,11 +493,11 @@ public final class PathBook {
             return hasPage(page) && choice >= 0 && choice < sizes.at(page);
         }
 
-        int bindPage(int mood, int set, int taken) {
+        int bindPage(int mood, int set, int take) {
             int page = pages;
             tenths.put(page, mood);
             sets.put(page, set);
-            takes.put(page, taken);
+            takes.put(page, take);
             sizes.put(page, 0);
             pages = page + 1;
             return page;
@@ -618,7 +617,7 @@ public final class PathBook {
         int reasonAt(int place, int choice) {
             int page = pageAt(place);
             int flags = flagsAt(place);
-            if (!hasChoice(page, choice)) {
+            if (choice < 0 || choice >= sizes.at(page)) {
                 return 2;
             }
             int slot = slotOf(page, choice);

@@ -467,7 +467,9 @@ public final class PromiseTest {
         dueOfChoice(y, 5, 0, 5, 0, 0);
         dueOfChoice(y, 5, 1, 0, 0, 0);
         dueOfPage(y, 31, 0, 0);
+        y.begin(0);
         due("exchange(5, 0)", y.exchange(5, 0), 2);
+        due("reader(0, 0)", y.reader(0, 0), 5);
         dueOfChoice(y, 0, 0, 0, 0, 0);
         dueOfChoice(y, 0, 1, 5, 0, 0);
         dueOfPage(y, 5, 5, 0);
@@ -921,6 +923,23 @@ public final class PromiseTest {
         dueOfCount(y, 4, 1);
         dueOfCount(y, 6, 0);
 
+        // What is told follows each change: an end that becomes a loop, a loop that is opened.
+        PathBook w = book(2, "0>1");
+        dueOfCount(w, 3, 0);
+        dueOfCount(w, 4, 0);
+        w.addChoice(1, 0, 0, 0);
+        dueOfCount(w, 3, 2);
+        dueOfCount(w, 4, 2);
+        dueOfCount(w, 6, 0);
+        w.takeChoice(1, 0);
+        dueOfCount(w, 3, 0);
+        dueOfCount(w, 4, 0);
+        dueOfPage(w, 0, 6, 0);
+        w.addChoice(1, 1, 0, 0);
+        dueOfPage(w, 0, 7, 1);
+        dueOfPage(w, 0, 6, 0);
+        dueOfPage(w, 1, 6, 1);
+
         // The highest page is the only end.
         PathBook z = pages(32);
         z.addChoice(0, 31, 0, 0);
@@ -952,6 +971,9 @@ public final class PromiseTest {
         x.addChoice(0, 2, B, 0);
         due("choice(0, 2, 3)", x.choice(0, 2, 3), 1);
         due("choice(2, 0, 3)", x.choice(2, 0, 3), 1);
+        PathBook y = book(2, "0>1-abcde;0>1+e");
+        due("choice(0, 0, 3) without a flag", y.choice(0, 0, 3), 1);
+        due("choice(0, 1, 3) without a flag", y.choice(0, 1, 3), 0);
         due("choice(0, 3, 0)", x.choice(0, 3, 0), UNKNOWN);
         due("choice(1, 1, 0)", x.choice(1, 1, 0), UNKNOWN);
         due("choice(1, 1, 4)", x.choice(1, 1, 4), UNKNOWN);
@@ -1058,6 +1080,8 @@ public final class PromiseTest {
         dueOfStep(y, 0, 0, C, NONE);
         dueOfStep(y, 1, NONE, NONE, NONE);
         dueOfCount(y, 8, 0);
+        dueOfCount(y, 6, 1);
+        dueOfCount(y, 7, 1);
         y.setMood(0, 0);
         dueOfStep(y, 0, NONE, NONE, NONE);
         dueOfCount(y, 8, NONE);
