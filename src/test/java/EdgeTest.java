@@ -365,6 +365,12 @@ public final class EdgeTest {
         due(ring().then("takeChoice(31, 0)"), "count(3)", 0);
         due(ring().then("addChoice(31, 31, 0, 0)", "takeChoice(31, 0)"), "count(3)", 1);
 
+        // A page that is led to by its neighbour in the binding does not come again by that.
+        due(Tape.book(3, "0>2;2>1"), "page(1, 6)", 0);
+        due(Tape.book(3, "0>2;2>1"), "count(3)", 0);
+        due(Tape.of("addPage(0, 31, 0)", "addPage(0, 0, 0)", "addChoice(0, 1, 0, 0)"), "page(1, 6)", 0);
+        due(Tape.of("addPage(0, 31, 0)", "addPage(0, 0, 0)", "addChoice(0, 1, 0, 0)"), "count(3)", 0);
+
         // With other flags alone: the choice that leads back sets a flag that bars it.
         Tape once = Tape.of("addPage(0, 0, 0)", "addPage(0, 1, 0)", "addPage(0, 0, 0)");
         Tape other = once.typing("0>1-a;0>2+a;1>0").then("addChoices()");
@@ -962,6 +968,9 @@ public final class EdgeTest {
         due(Tape.book(2, "1>0"), "choice(1, 0, 3)", 0);
         due(Tape.book(2, "0>1;1>0"), "choice(1, 0, 3)", 1);
         due(ring(), "choice(31, 0, 3)", 1);
+        // Of a dead page, whatever can be taken at its neighbours in the binding.
+        due(Tape.book(3, "0>2;1>0;2>0"), "choice(1, 0, 3)", 0);
+        due(Tape.of("addPage(0, 31, 0)", "addPage(0, 31, 0)").typing("0>0;1>0").then("addChoices()"), "choice(1, 0, 3)", 0);
         // At one of two places is enough, be it the first or the last one.
         Tape two = Tape.of("addPage(0, 0, 0)", "addPage(0, 16, 0)").typing("0>1;1>0;0>0+e;0>0-e;1>1-e").then("addChoices()");
         due(two, "choice(0, 1, 3)", 1);
@@ -1084,6 +1093,11 @@ public final class EdgeTest {
         due(twice, "count(7)", 1);
         due(twice, "count(5)", 4);
         due(twice.then("setMood(2, 0)"), "count(6)", 1);
+        due(Tape.pages(32), "count(6)", 1);
+        due(Tape.pages(32), "count(7)", 0);
+        due(Tape.pages(32).then("setMood(0, 1)", "setMood(31, 1)"), "count(6)", 1);
+        due(Tape.pages(32).then("setMood(0, 1)", "setMood(31, 1)"), "count(7)", 1);
+        due(ring().then("takeChoice(31, 0)"), "count(6)", 1);
         due(twice.then("setMood(2, 0)"), "count(7)", 0);
     }
 }
