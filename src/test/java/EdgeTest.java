@@ -1,3 +1,6 @@
+import java.util.ArrayList;
+import java.util.List;
+
 /**
  * The sentences of the document that name a boundary, in its order: its terms, then its promises.
  * What is refused stands in RefusalTest, the grammar of a text in GrammarTest.
@@ -29,6 +32,7 @@ public final class EdgeTest {
         fewestChoices();
         lowestChoices();
         moodOfAWay();
+        longWay();
         readers();
         bookmark();
         readersStay();
@@ -501,6 +505,86 @@ public final class EdgeTest {
             .typing("0>1;1>0;0>2+a").then("addChoices()");
         due(twice, "count(8)", 3);
         due(twice, "wayMood()", Float.floatToIntBits(0.3f + 0.5f + 0.3f + 0.1f));
+    }
+
+    /**
+     * A counter of five flags: 0 to 4 ask for the lowest flag that is not there, 5 to 9 set it and take away
+     * those below, 11 to 31 lead back to 0, and the happy end 10 opens when all five are there.
+     */
+    private static Tape counter() {
+        Tape book = Tape.NEW;
+        for (int page = 0; page < 32; page++) {
+            int flag = page >= 5 && page < 10 ? 1 << page - 5 : 0;
+            book = book.then(call("addPage", moodInCounter(page), flag, flag == 0 ? 0 : flag - 1));
+        }
+        for (int flag = 0; flag < 5; flag++) {
+            book = book.then(call("addChoice", flag, flag + 5, 0, 1 << flag),
+                call("addChoice", flag, flag == 4 ? 10 : flag + 1, 1 << flag, 0), call("addChoice", flag + 5, 11, 0, 0));
+        }
+        for (int page = 11; page < 32; page++) {
+            book = book.then(call("addChoice", page, (page + 1) % 32, 0, 0));
+        }
+        return book;
+    }
+
+    private static int moodInCounter(int page) {
+        return page == 10 ? 7 : page * 53 % 199 - 99;
+    }
+
+    /** The only way through the counter, as page, flags and choice of each step. */
+    private static List<int[]> wayOfCounter() {
+        List<int[]> way = new ArrayList<>();
+        for (int value = 0; value < 32; value++) {
+            int flag = 0;
+            while (flag < 5 && (value >> flag & 1) == 1) {
+                way.add(new int[] {flag, value, 1});
+                flag++;
+            }
+            if (flag == 5) {
+                way.add(new int[] {10, value, NONE});
+                break;
+            }
+            way.add(new int[] {flag, value, 0});
+            way.add(new int[] {flag + 5, value + 1, 0});
+            for (int page = 11; page < 32; page++) {
+                way.add(new int[] {page, value + 1, 0});
+            }
+        }
+        return way;
+    }
+
+    private static void longWay() {
+        sentence("The shortest happy way, by more choices than there are pages, or calls of an object.");
+        Tape book = counter();
+        List<int[]> way = wayOfCounter();
+        int last = way.size() - 1;
+        due(book, "count(8)", last);
+        SHEET.due("choices of the way of the counter", last, 744);
+        float sum = 0.0f;
+        for (int step = 0; step <= last; step++) {
+            PathBook x = book.play();
+            for (int what = 0; what < 3; what++) {
+                SHEET.due("counter: " + call("way", step, what), x.way(step, what), way.get(step)[what]);
+            }
+            sum += (float) moodInCounter(way.get(step)[0]) / 10.0f;
+        }
+        due(book, "wayMood()", Float.floatToIntBits(sum));
+        due(book, call("way", last + 1, 0), NONE);
+        due(book, "count(5)", last + 1);
+        due(book, "count(4)", 0);
+        // All but the end and 9: nothing takes the highest flag away again.
+        due(book, "count(3)", 30);
+        due(book, "page(9, 6)", 0);
+        due(book, "page(8, 6)", 1);
+        due(book, "page(10, 9)", last);
+        due(book, "page(31, 8)", 31);
+        due(book, "page(0, 8)", 32);
+        // Each of its places is stuck without the end.
+        Tape shut = book.then("takeChoice(4, 1)");
+        due(shut, "count(4)", last);
+        due(shut, "count(5)", last);
+        due(shut, "count(8)", NONE);
+        due(shut, "page(31, 7)", 1);
     }
 
     private static void dueOfSum(int... tenths) {
