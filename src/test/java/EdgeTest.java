@@ -1,4 +1,5 @@
 import java.util.ArrayList;
+import java.util.Arrays;
 import java.util.List;
 
 /**
@@ -511,11 +512,11 @@ public final class EdgeTest {
      * A counter of five flags: 0 to 4 ask for the lowest flag that is not there, 5 to 9 set it and take away
      * those below, 11 to 31 lead back to 0, and the happy end 10 opens when all five are there.
      */
-    private static Tape counter() {
+    private static Tape counter(int[] tenths) {
         Tape book = Tape.NEW;
         for (int page = 0; page < 32; page++) {
             int flag = page >= 5 && page < 10 ? 1 << page - 5 : 0;
-            book = book.then(call("addPage", moodInCounter(page), flag, flag == 0 ? 0 : flag - 1));
+            book = book.then(call("addPage", tenths[page], flag, flag == 0 ? 0 : flag - 1));
         }
         for (int flag = 0; flag < 5; flag++) {
             book = book.then(call("addChoice", flag, flag + 5, 0, 1 << flag),
@@ -525,10 +526,6 @@ public final class EdgeTest {
             book = book.then(call("addChoice", page, (page + 1) % 32, 0, 0));
         }
         return book;
-    }
-
-    private static int moodInCounter(int page) {
-        return page == 10 ? 7 : page * 53 % 199 - 99;
     }
 
     /** The only way through the counter, as page, flags and choice of each step. */
@@ -555,20 +552,19 @@ public final class EdgeTest {
 
     private static void longWay() {
         sentence("The shortest happy way, by more choices than there are pages, or calls of an object.");
-        Tape book = counter();
+        int[] same = new int[32];
+        Arrays.fill(same, 1);
+        Tape book = counter(same);
         List<int[]> way = wayOfCounter();
         int last = way.size() - 1;
+        SHEET.due("the choices of the way of the counter", last, 744);
         due(book, "count(8)", last);
-        SHEET.due("choices of the way of the counter", last, 744);
-        float sum = 0.0f;
         for (int step = 0; step <= last; step++) {
             PathBook x = book.play();
             for (int what = 0; what < 3; what++) {
                 SHEET.due("counter: " + call("way", step, what), x.way(step, what), way.get(step)[what]);
             }
-            sum += (float) moodInCounter(way.get(step)[0]) / 10.0f;
         }
-        due(book, "wayMood()", Float.floatToIntBits(sum));
         due(book, call("way", last + 1, 0), NONE);
         due(book, "count(5)", last + 1);
         due(book, "count(4)", 0);
@@ -585,6 +581,23 @@ public final class EdgeTest {
         due(shut, "count(5)", last);
         due(shut, "count(8)", NONE);
         due(shut, "page(31, 7)", 1);
+        moodOfALongWay(way);
+    }
+
+    /** Sums of thousands, where a tenth is no longer told exactly; and sums that come back to nearly nothing. */
+    private static void moodOfALongWay(List<int[]> way) {
+        for (int turn = 0; turn < 6; turn++) {
+            int[] tenths = new int[32];
+            for (int page = 0; page < 32; page++) {
+                int[] moods = {1, 99, -99, page * 53 % 199 - 99, page % 2 == 0 ? 98 : -99, page < 10 ? 0 : page % 3 - 1};
+                tenths[page] = page == 10 ? 7 : moods[turn];
+            }
+            float sum = 0.0f;
+            for (int[] step : way) {
+                sum += (float) tenths[step[0]] / 10.0f;
+            }
+            due(counter(tenths), "wayMood()", Float.floatToIntBits(sum));
+        }
     }
 
     private static void dueOfSum(int... tenths) {

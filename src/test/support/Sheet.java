@@ -1,8 +1,11 @@
+import java.util.HashSet;
+import java.util.Set;
+
 /** Counts what a test found, under the sentence of the document that it tests. */
 final class Sheet {
     private final String test;
+    private final Set<String> sentences = new HashSet<>();
     private String sentence = "";
-    private int sentences = 0;
     private int answers = 0;
     private int wrong = 0;
 
@@ -12,7 +15,7 @@ final class Sheet {
 
     void sentence(String words) {
         sentence = words;
-        sentences++;
+        sentences.add(words);
     }
 
     void due(String what, int got, int want) {
@@ -45,7 +48,7 @@ final class Sheet {
 
     /** Prints what was found, and ends the program. */
     void end() {
-        System.out.println(test + ": " + sentences + " sentences, " + answers + " answers, " + wrong + " not as due");
+        System.out.println(test + ": " + sentences.size() + " sentences, " + answers + " answers, " + wrong + " not as due");
         System.exit(wrong == 0 ? 0 : 1);
     }
 
