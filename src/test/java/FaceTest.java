@@ -28,6 +28,10 @@ public final class FaceTest {
         "\\b(ArrayIndexOutOfBounds|StringIndexOutOfBounds)Exception\\b", "\\b(Throwable|Error|Exception)\\b",
     };
 
+    // The second group is there for a constructor alone.
+    private static final Pattern HEAD = Pattern.compile("( {4}| {8})(?!(?:if|for|while|switch)\\b)"
+        + "(?:((?:public )?[A-Z]\\w*)|[a-zA-Z][\\w \\[\\]]* \\w+)\\(.*\\) \\{");
+
     private static int wrong = 0;
 
     private static void holds(String what, boolean does) {
@@ -138,16 +142,33 @@ public final class FaceTest {
             Matcher found = Pattern.compile(sign).matcher(code);
             holds("the program is without " + sign, !found.find());
         }
-        int start = 0;
-        String[] lines = text.split("\n");
-        for (int i = 0; i < lines.length; i++) {
-            if (lines[i].matches(" {4}(?: {4})?[\\w \\[\\]]+\\(.*\\) \\{")) {
-                start = i;
+        writtenMethods(text.split("\n"));
+    }
+
+    private static void writtenMethods(String[] lines) {
+        int methods = 0;
+        for (int first = 0; first < lines.length; first++) {
+            Matcher head = HEAD.matcher(lines[first]);
+            int last = first;
+            if (head.matches()) {
+                methods++;
+                while (!lines[last].equals(head.group(1) + "}")) {
+                    last++;
+                }
+                holds("a method is short, line " + (first + 1), last - first < 60);
             }
-            if (lines[i].matches(" {4}(?: {4})?\\}")) {
-                holds("a method is short, line " + (start + 1), i - start < 60 || start == 0);
-                start = 0;
+            boolean constructor = head.matches() && head.group(2) != null;
+            for (; first < last; first++) {
+                makesNothing(lines, first, constructor);
             }
+            makesNothing(lines, first, false);
         }
+        holds("the methods are found", methods > METHODS.length);
+    }
+
+    /** A call that made something would fill the room that all calls of a run share. */
+    private static void makesNothing(String[] lines, int line, boolean constructor) {
+        String code = lines[line].replaceAll("//.*|^ *\\*.*", "");
+        holds("what is made is made in a constructor, line " + (line + 1), constructor || !code.matches(".*\\bnew\\b.*"));
     }
 }
