@@ -34,6 +34,7 @@ public final class EdgeTest {
         lowestChoices();
         moodOfAWay();
         longWay();
+        farOff();
         readers();
         bookmark();
         readersStay();
@@ -598,6 +599,65 @@ public final class EdgeTest {
             }
             due(counter(tenths), "wayMood()", Float.floatToIntBits(sum));
         }
+    }
+
+    /**
+     * A counter of five flags that goes up, by which each place of a counter that goes down is come to early:
+     * but the end, 31, opens only when that one has gone down to nothing. By pages: 0 begins; 1 to 5 ask for the
+     * lowest flag that is not there, 6 to 10 set it; 11 to 15 ask for the lowest one that is there, 16 to 20 take
+     * it away; 21 to 25 lead up, 26 to 30 lead down.
+     */
+    private static Tape upAndDown(int end) {
+        Tape book = Tape.NEW;
+        for (int page = 0; page < 32; page++) {
+            int up = page >= 6 && page <= 10 ? 1 << page - 6 : 0;
+            int down = page >= 16 && page <= 20 ? 1 << page - 16 : 0;
+            book = book.then(call("addPage", 0, up + (down == 0 ? 0 : down - 1), down + (up == 0 ? 0 : up - 1)));
+        }
+        book = book.then("addChoice(0, 21, 0, 0)");
+        for (int i = 0; i < 5; i++) {
+            book = book.then(
+                call("addChoice", 1 + i, 6 + i, 0, 1 << i), call("addChoice", 1 + i, i < 4 ? 2 + i : 11, 1 << i, 0),
+                call("addChoice", 6 + i, 21, 0, 0), call("addChoice", 6 + i, 11, 0, 0),
+                call("addChoice", 11 + i, 16 + i, 1 << i, 0), call("addChoice", 11 + i, i < 4 ? 12 + i : end, 0, 1 << i),
+                call("addChoice", 16 + i, 30, 0, 0),
+                call("addChoice", 21 + i, i < 4 ? 22 + i : 1, 0, 0), call("addChoice", 21 + i, 26 + i, 0, 0),
+                call("addChoice", 26 + i, i > 0 ? 25 + i : 11, 0, 0));
+        }
+        return book;
+    }
+
+    private static void farOff() {
+        sentence("No end can be come to from it; one can come to a place with it: by ways of hundreds of choices.");
+        Tape book = upAndDown(31);
+        // The pages 21 to 30 and 11 with all sets of flags.
+        for (int page = 21; page <= 30; page++) {
+            due(book, call("page", page, 8), 32);
+        }
+        due(book, "page(11, 8)", 32);
+        due(book, "count(2)", 0);
+        due(book, "count(4)", 0);
+        due(book, "count(6)", 1);
+        // What sets the highest flag is passed once on the way up; on the way down, nothing leads up again.
+        due(book, "page(10, 6)", 0);
+        due(book, "page(20, 6)", 0);
+        due(book, "page(0, 6)", 0);
+        due(book, "page(6, 6)", 1);
+
+        Tape round = upAndDown(0);
+        due(round, "count(2)", 1);
+        due(round, "count(6)", 0);
+        for (int page = 0; page < 31; page++) {
+            due(round, call("page", page, 6), 1);
+            due(round, call("page", page, 7), 1);
+        }
+        due(round, "count(3)", 31);
+        SHEET.due(round + ": all places are stuck", round.answer("count(4)"), round.answer("count(5)"));
+
+        Tape open = round.then("addChoice(15, 31, 0, 31)");
+        due(open, "count(3)", 31);
+        due(open, "count(4)", 0);
+        due(open, "count(2)", 0);
     }
 
     private static void dueOfSum(int... tenths) {
