@@ -734,6 +734,14 @@ public final class EdgeTest {
         due(book.then("exchange(2, 1)"), "goToMark(0)", 2);
         due(book.then("exchange(0, 1)"), "goToMark(1)", 0);
         due(book.then("exchange(0, 1)", "goToMark(1)"), "reader(1, 1)", 2);
+        for (int flags = 0; flags < 32; flags++) {
+            Tape any = Tape.of("addPage(0, 0, 0)", call("addPage", 0, flags, 0), "addChoice(0, 1, 0, 0)", "begin(1)",
+                "choose(1, 0)", "mark(1)", "exchange(1, 0)");
+            due(any, "reader(1, 0)", 0);
+            due(any, "reader(1, 1)", flags);
+            due(any, "goToMark(0)", 0);
+            due(any.then("goToMark(0)"), "reader(0, 1)", flags);
+        }
     }
 
     private static void dueOfReaders(Tape tape, int page0, int flags0, int taken0, int page1, int flags1, int taken1) {
